@@ -119,6 +119,8 @@ public final class PromisesTest {
     due("both kinds", house(x, "w00;x"), -1004);
     tell(x, "y;y;y;y;y;y;y;y;y;y;y;y;y;y;y;y;y;y;y;y;y;y;y;y;y;y;y;y;y;y;y;y;y;y;y;y;y;y;y;yy");
     due("80 letters, no end", x.house(), -1079);
+    tell(x, "y;y;y;y;y;y;y;y;y;y;y;y;y;y;y;y;y;y;y;y;y;y;y;y;y;y;y;y;y;y;y;y;y;y;y;y;y;y;y;y0");
+    due("80 letters, and the end lacks", x.house(), -1080);
     tell(x, "y;y;y;y;y;y;y;y;y;y;y;y;y;y;y;y;y;y;y;y;y;y;y;y;y;y;y;y;y;y;y;y;y;y;y;y;y;y;w00");
     due("79 letters, no end", x.house(), -1079);
     tell(x, "y;y;y;y;y;y;y;y;y;y;y;y;y;y;y;y;y;y;y;y;y;y;y;y;y;y;y;y;y;y;y;y;y;y;y;y;y;y;y;y;");
@@ -377,6 +379,10 @@ public final class PromisesTest {
     dueLikely(x, 0, 4, 2, 19551, 40000);
     dueLikely(x, 0, 5, 2, 14553, 40000);
     dueLikely(x, 0, 6, 2, 0, 1);
+    x = with("ll90,0;ll50,0;lc20,0;y;y;");
+    // He lives by 0.5 (0.25), above him 0.9 (0.99) die: the first of all counts, too.
+    dueLikely(x, 1, 6, 1, 9, 20);
+    dueLikely(x, 1, 6, 2, 99, 400);
     // By AGE then: 39 and 40, 99 and 99.
     x = with("ll39,0;ll99,0;");
     dueLikely(x, 0, 3, 2, 21, 50);
@@ -419,6 +425,7 @@ public final class PromisesTest {
     due("year", x.year(0), 0);
     due("year", x.year(0), 0);
     due("mean() of 30, 52, 85, 99, 93", x.mean(), 3 + 2 + 8 + 8 + 4);
+    due("mean() now, not a year later", with("ll39,0;").mean(), 3);
   }
 
   private static void dueDeaths(UpWhenDies x, int lodger, int floor, int many, int set) {
@@ -451,6 +458,14 @@ public final class PromisesTest {
     due("deaths(0, 1, -1)", x.deaths(0, 1, -1), -2);
     due("count(11)", x.count(11), 4);
     due("count(12)", x.count(12), 2);
+    // Of several the least numbers, the first of all among them; by the CHANCE now (2 is older in a YEAR).
+    x = with("li50,0;ls66,0;ll79,0;ll80,0;ll20,0;");
+    dueDeaths(x, 4, 3, 1, 1);
+    dueDeaths(x, 4, 4, 2, 1 + 8);
+    dueDeaths(x, 4, 5, 3, 1 + 8 + 4);
+    x = with("ll90,0;ll79,0;ll40,0;li50,0;");
+    dueDeaths(x, 2, 5, 1, 1);
+    dueDeaths(x, 2, 6, 2, 1 + 8);
     // A CELLAR who has come up by a ring is as all others.
     x = with("lc20,0;ll10,0;ll90,0;w01;w10;");
     dueDeaths(x, 0, 1, -9, -9);
@@ -526,6 +541,11 @@ public final class PromisesTest {
     due("leastCarried()", x.leastCarried(), 1);
     due("all die", x.year(3), 0);
     due("leastCarried()", x.leastCarried(), -9);
+    x = with("ll10,3;ll20,2;ll30,1;");
+    // Alone: 0, 3, 5.
+    due("the first of all", x.leastCarried(), 0);
+    due("year(1)", x.year(1), 0);
+    due("the first who lives", x.leastCarried(), 1);
   }
 
   private static void rings() {
