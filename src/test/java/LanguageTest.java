@@ -7,8 +7,12 @@ import java.nio.file.Files;
 import java.nio.file.Path;
 import java.util.Arrays;
 import java.util.HashSet;
+import java.util.Map;
 import java.util.Set;
+import java.util.TreeMap;
 import java.util.TreeSet;
+import java.util.regex.Matcher;
+import java.util.regex.Pattern;
 
 /** The class's face is the document's, and its text keeps to what of ../shared/LANGUAGE.md can be seen so. */
 public final class LanguageTest {
@@ -20,8 +24,13 @@ public final class LanguageTest {
     "int image()", "int back()", "int count(int)"};
 
   private static final String[] FORBIDDEN = {"throw", "throws", "try", "catch", "finally", "synchronized", "assert",
-    "import", "package", "float", "double", "while", "System", "Random", "Thread", "Exact", "hashCode", "toString",
-    "equals", "native", "volatile", "transient", "instanceof", "Override", "protected"};
+    "package", "Random", "Thread", "hashCode", "native", "volatile", "transient", "strictfp", "protected"};
+
+  private static final Set<String> LIBRARY = Set.of("ArrayList", "List", "Iterator", "Arrays");
+  private static final int DEEPEST_CALLS = 8;
+  private static final Pattern METHOD =
+      Pattern.compile("\n( {2}| {4})(?:(?:private|public|static) )*[\\w\\[\\]]+ (\\w+)\\([^)]*\\) \\{");
+  private static final Pattern CALL = Pattern.compile("\\b(\\w+)\\(");
 
   public static void main(String[] args) throws Exception {
     face();
@@ -54,7 +63,8 @@ public final class LanguageTest {
     }
     Check.isTrue("face " + open, open.equals(new TreeSet<>(Set.of(FACE))));
     for (Method m : c.getDeclaredMethods()) {
-      if (Modifier.isPrivate(m.getModifiers())) Check.isTrue(m + " has a name of its own", !names.contains(m.getName()));
+      if (!Modifier.isPrivate(m.getModifiers())) continue;
+      Check.isTrue(m + " has a name of its own", !names.contains(m.getName()));
     }
     fields(c, true);
   }
@@ -87,11 +97,45 @@ public final class LanguageTest {
     Set<String> words = new HashSet<>(Arrays.asList(bare.split("[^A-Za-z0-9_]+")));
     for (String word : FORBIDDEN) Check.isTrue("without " + word, !words.contains(word));
     Check.isTrue("no lambda, no method reference", !bare.contains("->") && !bare.contains("::"));
-    Check.isTrue("no generics, no annotation", !bare.contains("<>") && !bare.contains("@"));
+    Check.isTrue("no function whose name ends in Exact", !bare.contains("Exact("));
+    Check.isTrue("of System arraycopy alone", !bare.replace("System.arraycopy", "").matches("(?s).*\\bSystem\\b.*"));
+    Matcher imported = Pattern.compile("\\bimport\\b\\s*([^;]*);").matcher(bare);
+    while (imported.find()) {
+      String name = imported.group(1).trim();
+      Check.isTrue("import of " + name, name.startsWith("java.util.") && LIBRARY.contains(name.substring(10)));
+    }
     for (char sign : source.toCharArray()) {
       if (sign > 127 || sign < 32 && sign != '\n') Check.isTrue("no sign " + (int) sign, false);
     }
     methodLengths(bare);
+    callDepths(bare);
+  }
+
+  // Methods of one name count as one, so that a way of calls is told rather too deep than too shallow.
+  private static void callDepths(String bare) {
+    Map<String, Set<String>> calls = new TreeMap<>();
+    Matcher method = METHOD.matcher(bare);
+    while (method.find()) {
+      int end = bare.indexOf("\n" + method.group(1) + "}", method.end());
+      Set<String> called = calls.computeIfAbsent(method.group(2), name -> new TreeSet<>());
+      Matcher call = CALL.matcher(bare.substring(method.end(), end));
+      while (call.find()) called.add(call.group(1));
+    }
+    for (String called : FACE) {
+      String name = called.substring(called.indexOf(' ') + 1, called.indexOf('('));
+      Check.isTrue("found: " + name, calls.containsKey(name));
+      int depth = depth(name, calls, 0);
+      Check.isTrue(name + " calls at most eight deep, not " + depth, depth <= DEEPEST_CALLS);
+    }
+  }
+
+  private static int depth(String name, Map<String, Set<String>> calls, int above) {
+    int deepest = above + 1;
+    if (above > 2 * DEEPEST_CALLS) return deepest;
+    for (String called : calls.get(name)) {
+      if (calls.containsKey(called)) deepest = Math.max(deepest, depth(called, calls, above + 1));
+    }
+    return deepest;
   }
 
   // A method begins with a line that ends in "{" two or four steps in, and ends with "}" as far in.

@@ -132,14 +132,14 @@ final class Model {
     return set;
   }
 
-  int letter(int c) {
+  public int letter(int c) {
     if (c < 0) return no(-4);
     if (c > 255 || text.length() == 80) return no(-6);
     text += (char) c;
     return text.length();
   }
 
-  int house() {
+  public int house() {
     String told = text;
     text = "";
     int misfit = misfit(told);
@@ -202,7 +202,7 @@ final class Model {
     return people.size() - 1;
   }
 
-  int enter(int kind, int age, int load) {
+  public int enter(int kind, int age, int load) {
     if (kind < 0 || kind > 5) return no(-2);
     if (age < 0 || load < 0) return no(-4);
     if (age > 99 || load > 9 || people.size() == 8) return no(-6);
@@ -210,21 +210,21 @@ final class Model {
     return come(kind, age, load);
   }
 
-  int lodger(int lodger, int what) {
+  public int lodger(int lodger, int what) {
     if (dead(lodger)) return no(-1);
     Person p = people.get(lodger);
     if (what < 0 || what > 6) return no(-2);
     return new int[] {p.kind, p.age, p.floor, p.load, p.chance(), p.climbs(), p.wish}[what];
   }
 
-  int wish(int lodger, int floor) {
+  public int wish(int lodger, int floor) {
     if (dead(lodger) || floor < -1 || floor > 9) return no(-1);
     int was = people.get(lodger).wish;
     people.get(lodger).wish = floor == -1 ? -9 : floor;
     return was;
   }
 
-  int year(int deaths) {
+  public int year(int deaths) {
     if (someDead(deaths)) return no(-1);
     if (year == 99) return no(-6);
     year++;
@@ -233,13 +233,13 @@ final class Model {
     return moved;
   }
 
-  int on(int floor) {
+  public int on(int floor) {
     if (floor < 0 || floor > 9) return no(-1);
     Person p = at(people, floor);
     return p == null ? -9 : people.indexOf(p);
   }
 
-  long likely(int lodger, int floor, int n, int part) {
+  public long likely(int lodger, int floor, int n, int part) {
     int refusal = 0;
     if (dead(lodger) || floor < 0 || floor > 9) refusal = -1;
     else if (n < 1) refusal = -4;
@@ -276,11 +276,11 @@ final class Model {
     return sum;
   }
 
-  int mean() {
+  public int mean() {
     return people.stream().filter(Person::alive).mapToInt(Person::chance).sum();
   }
 
-  int deaths(int lodger, int floor, int what) {
+  public int deaths(int lodger, int floor, int what) {
     if (dead(lodger) || floor < 0 || floor > 9) return no(-1);
     if (what < 0 || what > 1) return no(-2);
     Person p = people.get(lodger);
@@ -295,13 +295,13 @@ final class Model {
     return set;
   }
 
-  int stuck() {
+  public int stuck() {
     int set = 0;
     for (Person p : people) if (p.alive() && p.floor > p.climbs()) set |= 1 << people.indexOf(p);
     return set;
   }
 
-  int safe(int lodger) {
+  public int safe(int lodger) {
     if (dead(lodger)) return no(-1);
     Person p = people.get(lodger).copy();
     for (int years = 0; years < 100; years++) {
@@ -311,7 +311,7 @@ final class Model {
     return 99;
   }
 
-  int carried(int deaths) {
+  public int carried(int deaths) {
     if (someDead(deaths)) return no(-1);
     int[] up = pass(copies(people), deaths);
     int sum = 0;
@@ -319,7 +319,7 @@ final class Model {
     return sum;
   }
 
-  int leastCarried() {
+  public int leastCarried() {
     int best = -9;
     for (int i = people.size() - 1; i >= 0; i--) {
       if (dead(i)) continue;
@@ -328,7 +328,7 @@ final class Model {
     return best;
   }
 
-  int rings() {
+  public int rings() {
     int set = 0;
     for (Person p : people) {
       if (!p.alive()) continue;
@@ -343,7 +343,7 @@ final class Model {
     return set;
   }
 
-  int changing() {
+  public int changing() {
     int set = rings();
     int moved = 0;
     for (int i = 0; i < people.size(); i++) {
@@ -356,13 +356,13 @@ final class Model {
     return moved;
   }
 
-  int free() {
+  public int free() {
     int set = 0;
     for (int f = 0; f < 10; f++) if (at(people, f) == null) set += 1 << f;
     return set;
   }
 
-  int ages(int kind, int what) {
+  public int ages(int kind, int what) {
     if (kind < 0 || kind > 5 || what < 0 || what > 1) return no(-2);
     int many = 0;
     int least = -9;
@@ -375,14 +375,14 @@ final class Model {
     return what == 0 ? many : least;
   }
 
-  int row(int v) {
+  public int row(int v) {
     if (v < 0) return no(-4);
     if (v > 10 || row.size() == 8) return no(-6);
     row.add(v);
     return row.size();
   }
 
-  int fitting(int what) {
+  public int fitting(int what) {
     if (what < 0 || what > 1) return no(-2);
     if (row.size() != count(0)) return no(-3);
     int living = living(people);
@@ -407,7 +407,7 @@ final class Model {
     return what == 0 ? many : least;
   }
 
-  int judge() {
+  public int judge() {
     List<Integer> so = new ArrayList<>();
     for (Person p : people) if (p.alive()) so.add(p.floor);
     List<Integer> told = new ArrayList<>(row);
@@ -418,7 +418,7 @@ final class Model {
     return told.size() == so.size() ? -9 : Math.min(told.size(), so.size());
   }
 
-  int lots(int n, int z) {
+  public int lots(int n, int z) {
     if (n < 1) return no(-4);
     if (n > 40) return no(-6);
     List<Person> then = copies(people);
@@ -435,20 +435,20 @@ final class Model {
     return living(then);
   }
 
-  int image() {
+  public int image() {
     keptPeople = copies(people);
     keptYear = year;
     return year;
   }
 
-  int back() {
+  public int back() {
     if (keptPeople == null) return no(-3);
     people = copies(keptPeople);
     year = keptYear;
     return year;
   }
 
-  int count(int what) {
+  public int count(int what) {
     if (what >= 11 && what <= 16) return refusals[what];
     if (what == 0) return Integer.bitCount(living(people));
     if (what == 1) return people.size();

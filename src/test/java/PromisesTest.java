@@ -1,10 +1,6 @@
 /** For each promise of the document: ordinary calls, its edges, wrong calls; reckoned by hand. */
-public final class PromisesTest {
-  private static final int LEAST = Integer.MIN_VALUE;
-  private static final int GREATEST = Integer.MAX_VALUE;
+public final class PromisesTest extends Asking {
   private static final long LONG_REFUSAL = 4000000000000000000L;
-
-  private static String promise = "";
 
   public static void main(String[] args) {
     newObject();
@@ -41,39 +37,12 @@ public final class PromisesTest {
     Check.end();
   }
 
-  private static void due(String call, long got, long want) {
-    Check.due("promise " + promise + ": " + call, got, want);
-  }
-
-  private static void tell(UpWhenDies x, String text) {
-    for (int i = 0; i < text.length(); i++) due("letter " + i + " of " + text, x.letter(text.charAt(i)), i + 1);
-  }
-
-  private static int house(UpWhenDies x, String text) {
-    tell(x, text);
-    return x.house();
-  }
-
-  private static UpWhenDies with(String text) {
-    UpWhenDies x = new UpWhenDies();
-    int statements = 0;
-    for (int i = 0; i < text.length(); i++) if (text.charAt(i) == ';') statements++;
-    due("house " + text, house(x, text), statements);
-    return x;
-  }
-
-  private static void dueFloors(UpWhenDies x, int... floors) {
-    for (int i = 0; i < floors.length; i++) due("lodger(" + i + ", 2)", x.lodger(i, 2), floors[i]);
-  }
-
-  private static void tellRow(UpWhenDies x, int... numbers) {
-    for (int i = 0; i < numbers.length; i++) due("row(" + numbers[i] + ")", x.row(numbers[i]), i + 1);
-  }
-
   private static void newObject() {
-    promise = "1";
+    Check.under("promise 1: ");
     UpWhenDies x = new UpWhenDies();
-    for (int what = 0; what <= 17; what++) due("count(" + what + ")", x.count(what), what < 7 || what > 10 && what < 17 ? 0 : -9);
+    for (int what = 0; what <= 17; what++) {
+      due("count(" + what + ")", x.count(what), what < 7 || what > 10 && what < 17 ? 0 : -9);
+    }
     for (int f = 0; f < 10; f++) due("on(" + f + ")", x.on(f), -9);
     due("free()", x.free(), 1023);
     due("back()", x.back(), -3);
@@ -82,7 +51,7 @@ public final class PromisesTest {
   }
 
   private static void letter() {
-    promise = "2";
+    Check.under("promise 2: ");
     UpWhenDies x = new UpWhenDies();
     due("letter(0)", x.letter(0), 1);
     due("letter(255)", x.letter(255), 2);
@@ -101,7 +70,7 @@ public final class PromisesTest {
   }
 
   private static void houseGrammar() {
-    promise = "3";
+    Check.under("promise 3: ");
     String[] told = {"", "x", "L", ";", "l", "lx", "ll", "lla", "ll,", "ll1", "ll1;", "ll12", "ll123", "ll12;", "ll1,",
       "ll1,x", "ll1,,", "ll1,2", "ll1,23", "ll1,2;x", "ll1,2;;", "w", "wx", "w1", "w1x", "w12", "w123", "w1;",
       "y", "yx", "y1", "y1,", "y01234567", "y012345678", "y;y", "y;y;l", "y; ", "l 1"};
@@ -129,7 +98,7 @@ public final class PromisesTest {
   }
 
   private static void houseMeaning() {
-    promise = "3";
+    Check.under("promise 3: ");
     UpWhenDies x = with("ll25,3;ls07,5;li63,9;");
     dueFloors(x, 2, 0, 6);
     due("age", x.lodger(1, 1), 7);
@@ -158,7 +127,7 @@ public final class PromisesTest {
   }
 
   private static void houseLeavesNothing() {
-    promise = "3";
+    Check.under("promise 3: ");
     UpWhenDies x = with("ll10,1;ll20,2;w05;");
     due("house", house(x, "w19;w04;lc5,5;y1;ll90,1;w10;"), -2024);
     due("count(0)", x.count(0), 2);
@@ -176,7 +145,7 @@ public final class PromisesTest {
   }
 
   private static void enter() {
-    promise = "4";
+    Check.under("promise 4: ");
     UpWhenDies x = new UpWhenDies();
     due("enter(-1, 0, 0)", x.enter(-1, 0, 0), -2);
     due("enter(6, -1, 99)", x.enter(6, -1, 99), -2);
@@ -204,7 +173,7 @@ public final class PromisesTest {
   }
 
   private static void lodger() {
-    promise = "5";
+    Check.under("promise 5: ");
     UpWhenDies x = with("ls47,5;w08;lc80,1;y;");
     int[] due0 = {1, 48, 4, 5, 2, 7, 8};
     int[] due1 = {3, 81, 0, 1, 8, 3, -9};
@@ -236,7 +205,7 @@ public final class PromisesTest {
   }
 
   private static void kinds() {
-    promise = "5";
+    Check.under("promise 5: ");
     dueKind(0, 0, 0, 0, 9);
     dueKind(0, 11, 1, 1, 9);
     dueKind(0, 12, 1, 1, 8);
@@ -264,7 +233,7 @@ public final class PromisesTest {
   }
 
   private static void wish() {
-    promise = "6";
+    Check.under("promise 6: ");
     UpWhenDies x = with("ll10,0;ll20,0;y1;");
     due("wish(0, 9)", x.wish(0, 9), -9);
     due("wish(0, 0)", x.wish(0, 0), 9);
@@ -283,7 +252,7 @@ public final class PromisesTest {
   }
 
   private static void year() {
-    promise = "7";
+    Check.under("promise 7: ");
     UpWhenDies x = with("ll20,0;lc30,0;ll60,0;ll99,0;ll40,0;");
     due("one that never came", x.year(32), -1);
     due("a far bit", x.year(LEAST), -1);
@@ -313,7 +282,7 @@ public final class PromisesTest {
   }
 
   private static void yearsEnd() {
-    promise = "7";
+    Check.under("promise 7: ");
     UpWhenDies x = with("ll98,0;ll10,0;");
     for (int i = 1; i <= 99; i++) {
       due("year(0)", x.year(0), 0);
@@ -329,7 +298,7 @@ public final class PromisesTest {
   }
 
   private static void on() {
-    promise = "8";
+    Check.under("promise 8: ");
     UpWhenDies x = with("lc99,0;ll90,0;ll50,0;");
     due("on(0)", x.on(0), 0);
     due("on(9)", x.on(9), 1);
@@ -346,14 +315,8 @@ public final class PromisesTest {
     due("count(11)", x.count(11), 4);
   }
 
-  private static void dueLikely(UpWhenDies x, int lodger, int floor, int n, long above, long below) {
-    String call = "likely(" + lodger + ", " + floor + ", " + n + ", ";
-    due(call + "0)", x.likely(lodger, floor, n, 0), above);
-    due(call + "1)", x.likely(lodger, floor, n, 1), below);
-  }
-
   private static void likelyOneYear() {
-    promise = "9";
+    Check.under("promise 9: ");
     UpWhenDies x = with("ll30,0;ll50,0;ll90,0;li79,0;lc20,0;ly29,0;");
     dueLikely(x, 3, 7, 1, 0, 1);
     dueLikely(x, 3, 0, 1, 0, 1);
@@ -373,7 +336,7 @@ public final class PromisesTest {
   }
 
   private static void likelyTwoYears() {
-    promise = "9";
+    Check.under("promise 9: ");
     UpWhenDies x = with("ll30,0;ll50,0;ll90,0;");
     dueLikely(x, 0, 3, 2, 49, 100);
     dueLikely(x, 0, 4, 2, 19551, 40000);
@@ -395,7 +358,7 @@ public final class PromisesTest {
   }
 
   private static void likelyRefused() {
-    promise = "9";
+    Check.under("promise 9: ");
     UpWhenDies x = with("ll30,0;ll50,0;y1;");
     due("likely(1, ..)", x.likely(1, 3, 1, 0), LONG_REFUSAL + 1);
     due("likely(2, ..)", x.likely(2, 3, 0, 2), LONG_REFUSAL + 1);
@@ -412,7 +375,7 @@ public final class PromisesTest {
   }
 
   private static void mean() {
-    promise = "10";
+    Check.under("promise 10: ");
     UpWhenDies x = new UpWhenDies();
     due("mean()", x.mean(), 0);
     due("house", house(x, "ll25,0;ls47,0;li63,0;lc80,0;ld99,0;ly88,0;"), 6);
@@ -428,13 +391,8 @@ public final class PromisesTest {
     due("mean() now, not a year later", with("ll39,0;").mean(), 3);
   }
 
-  private static void dueDeaths(UpWhenDies x, int lodger, int floor, int many, int set) {
-    due("deaths(" + lodger + ", " + floor + ", 0)", x.deaths(lodger, floor, 0), many);
-    due("deaths(" + lodger + ", " + floor + ", 1)", x.deaths(lodger, floor, 1), set);
-  }
-
   private static void deaths() {
-    promise = "11";
+    Check.under("promise 11: ");
     // FLOORS 2, 4, 6, 0, 9, 7, 5; CHANCES 2, 2, 9, 8, 8, 4, 8.
     UpWhenDies x = with("ll25,0;ls47,0;li63,0;lc80,0;ld99,0;ly88,0;li50,0;");
     dueDeaths(x, 0, 2, -9, -9);
@@ -476,7 +434,7 @@ public final class PromisesTest {
   }
 
   private static void stuck() {
-    promise = "12";
+    Check.under("promise 12: ");
     // FLOORS 5, 6, 8, 0, 9, 7 against 5, 4, 4, 1, 1, 4.
     UpWhenDies x = with("ll59,0;li60,0;ls85,0;lc99,0;ld98,0;ly84,0;");
     due("stuck()", x.stuck(), 2 + 4 + 16 + 32);
@@ -487,7 +445,7 @@ public final class PromisesTest {
   }
 
   private static void safe() {
-    promise = "13";
+    Check.under("promise 13: ");
     UpWhenDies x = with("lc50,0;ll10,0;ll20,0;ll30,0;ll59,0;ll90,0;ls60,0;");
     int[] years = {99, 99, 75, 53, 0, -9, 11};
     for (int i = 0; i < 7; i++) due("safe(" + i + ")", x.safe(i), years[i]);
@@ -501,7 +459,7 @@ public final class PromisesTest {
   }
 
   private static void carried() {
-    promise = "14";
+    Check.under("promise 14: ");
     // FLOORS 2, 0, 6, 9, 4 with LOADS 3, 9, 5, 7, 1.
     UpWhenDies x = with("ll20,3;lc30,9;ll60,5;ll99,7;ll40,1;");
     due("carried(0)", x.carried(0), 0);
@@ -523,7 +481,7 @@ public final class PromisesTest {
   }
 
   private static void leastCarried() {
-    promise = "15";
+    Check.under("promise 15: ");
     UpWhenDies x = new UpWhenDies();
     due("leastCarried()", x.leastCarried(), -9);
     due("house", house(x, "ll90,5;ll10,2;ll20,0;ll0,7;"), 4);
@@ -549,7 +507,7 @@ public final class PromisesTest {
   }
 
   private static void rings() {
-    promise = "16";
+    Check.under("promise 16: ");
     UpWhenDies x = with("ll10,0;ll20,0;ll30,0;ll40,0;ll50,0;ll60,0;ll70,0;");
     due("rings()", x.rings(), 0);
     due("house", house(x, "w02;w13;w21;w34;w41;w59;w66;"), 7);
@@ -573,7 +531,7 @@ public final class PromisesTest {
   }
 
   private static void changing() {
-    promise = "17";
+    Check.under("promise 17: ");
     UpWhenDies x = with("ll10,0;ll20,0;ll30,0;ll40,0;ll50,0;w02;w13;w21;w34;w41;");
     due("changing()", x.changing(), 3);
     dueFloors(x, 2, 3, 1, 4, 5);
@@ -589,7 +547,7 @@ public final class PromisesTest {
   }
 
   private static void free() {
-    promise = "18";
+    Check.under("promise 18: ");
     UpWhenDies x = with("lc99,0;ll90,0;ll50,0;");
     due("free()", x.free(), 1023 - 1 - 512 - 32);
     due("year", x.year(2), 1);
@@ -599,7 +557,7 @@ public final class PromisesTest {
   }
 
   private static void ages() {
-    promise = "19";
+    Check.under("promise 19: ");
     UpWhenDies x = with("ll0,0;ll10,0;ll30,0;ll95,0;");
     int[] many = {60, 60, 60, 0, 60, 60};
     int[] least = {20, 20, 20, -9, 20, 30};
@@ -623,7 +581,7 @@ public final class PromisesTest {
   }
 
   private static void row() {
-    promise = "20";
+    Check.under("promise 20: ");
     UpWhenDies x = new UpWhenDies();
     due("row(-1)", x.row(-1), -4);
     due("row(11)", x.row(11), -6);
@@ -637,13 +595,8 @@ public final class PromisesTest {
     due("count(16)", x.count(16), 3);
   }
 
-  private static void dueFitting(UpWhenDies x, int many, int least) {
-    due("fitting(0)", x.fitting(0), many);
-    due("fitting(1)", x.fitting(1), least);
-  }
-
   private static void fitting() {
-    promise = "21";
+    Check.under("promise 21: ");
     UpWhenDies x = new UpWhenDies();
     dueFitting(x, 1, 0);
     // FLOORS 1, 3, 5, 8, 0.
@@ -688,7 +641,7 @@ public final class PromisesTest {
   }
 
   private static void judge() {
-    promise = "22";
+    Check.under("promise 22: ");
     UpWhenDies x = new UpWhenDies();
     due("judge()", x.judge(), -9);
     tellRow(x, 4);
@@ -719,7 +672,7 @@ public final class PromisesTest {
   }
 
   private static void lots() {
-    promise = "23";
+    Check.under("promise 23: ");
     UpWhenDies x = with("ll39,0;li79,0;lc0,0;ll50,0;y3;ll55,0;");
     due("lots(0, 1)", x.lots(0, 1), -4);
     due("lots(least, 1)", x.lots(LEAST, 1), -4);
@@ -760,7 +713,7 @@ public final class PromisesTest {
   }
 
   private static void imageAndBack() {
-    promise = "24, 25";
+    Check.under("promise 24, 25: ");
     UpWhenDies x = new UpWhenDies();
     due("back()", x.back(), -3);
     due("house", house(x, "ll10,1;ls22,2;w05;y;"), 4);
@@ -797,7 +750,7 @@ public final class PromisesTest {
   }
 
   private static void count() {
-    promise = "26";
+    Check.under("promise 26: ");
     UpWhenDies x = with("ll10,1;ls22,2;li95,9;y2;");
     tellRow(x, 4, 4);
     tell(x, "yyy");
